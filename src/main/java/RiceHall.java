@@ -374,6 +374,7 @@ public final class RiceHall {
             return NONE;
         }
         int end = now + n;
+        lookAround();
         for (int minute = 0; minute < n && lit != null; minute++) {
             burnOneMinute();
             if (lit.fuse <= 0) {
@@ -606,21 +607,27 @@ public final class RiceHall {
     }
 
     private int askLaw(int word) {
+        lookAround();
+        return law.ask(word, now);
+    }
+
+    private void lookAround() {
         int rice = 0;
         int out = 0;
         for (int s = 0; s < storeCount; s++) {
             rice += stores[s].rice;
             out += stores[s].out();
         }
-        law.look(now, windNow);
+        law.lookAtClock(now, windNow);
         law.lookAtMarket(house.latestClose(), house.closeCount, rice, out);
-        return law.ask(word, now);
     }
 
+    // While minutes go by only the clock changes, so the rest isn't looked at for each of them.
     private void burnOneMinute() {
-        int shorter = askLaw(BURN);
+        law.lookAtClock(now, windNow);
+        int shorter = law.ask(BURN, now);
         if (windNow > 0) {
-            shorter += askLaw(GUST) * windNow;
+            shorter += law.ask(GUST, now) * windNow;
         }
         now++;
         lit.fuse -= shorter;
@@ -966,7 +973,7 @@ public final class RiceHall {
             return latest;
         }
 
-        void look(int minute, int wind) {
+        void lookAtClock(int minute, int wind) {
             facts[0] = minute / DAY;
             facts[1] = minute % DAY;
             facts[2] = wind;
@@ -1112,7 +1119,7 @@ public final class RiceHall {
                     numbers[tokens] = kinds[tokens] == NUMBER ? numberOf(text, at, end) : NONE;
                     tokens++;
                 }
-                at = end;
+                at = Math.max(at + 1, end);
             }
             places[tokens] = until;
             kinds[tokens] = END;

@@ -11,12 +11,14 @@ public final class ClearingTest {
         clearing();
         calledAndNotAnyMore();
         closedOut();
+        closedOutWithNothing();
         graceZero();
         failedAndBorne();
         partsByRemainders();
         moreThanAllHave();
         longProducts();
         settles();
+        settlesAllThatIsCalled();
         asksWithTheNewClose();
         counts();
         Due.end();
@@ -220,6 +222,21 @@ public final class ClearingTest {
         told(x, 3, -1, -1, -1);
     }
 
+    private static void closedOutWithNothing() {
+        RiceHall x = hall("burn 600;margin 10;grace 1;settle 99;", 100, 1000, 1000);
+        session(x, 0, 1, 11, 500);
+        told(x, 3, 1, -1, -1);
+        session(x, 2, 1, 1, 500);
+        told(x, 4, 1, 0, 0);
+        session(x, 0, 1, 10, 500);
+        session(x, 2, 1, 1, 490);
+        told(x, 3, 4, -1, -1);
+        session(x, 2, 1, 1, 490);
+        coins(x, 0);
+        told(x, 4, 2, 0, 0);
+        told(x, 5, 0, 0, 0);
+    }
+
     private static void failedAndBorne() {
         RiceHall x = hall("burn 600;margin 10;grace 1;settle 99;", 10, 1000, 500);
         session(x, 0, 1, 10, 500);
@@ -336,6 +353,20 @@ public final class ClearingTest {
         coins(x, 110, 899, 1001);
         told(x, 1, 0, 0, 0);
         Due.is("count(5)", x.count(5), 4);
+    }
+
+    private static void settlesAllThatIsCalled() {
+        RiceHall x = hall("burn 600;margin 10;grace 1;settle 3;", 10, 1000, 1000);
+        session(x, 0, 1, 10, 500);
+        session(x, 2, 1, 1, 500);
+        Due.is("the HOUSE's POSITION", x.count(8), 10);
+        session(x, 0, 1, 10, 500);
+        told(x, 1, 0, 0, 0);
+        told(x, 3, -1, -1, -1);
+        told(x, 4, 1, 0, 0);
+        Due.is("the HOUSE's POSITION", x.count(8), 0);
+        session(x, 2, 1, 1, 400);
+        Due.is("the FUND", x.coins(-1), 0);
     }
 
     private static void asksWithTheNewClose() {

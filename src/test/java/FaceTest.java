@@ -78,10 +78,20 @@ public final class FaceTest {
             Due.is(c + " has no classes", c == RiceHall.class || c.getDeclaredClasses().length == 0, true);
             Due.is(c + " is static", c == RiceHall.class || Modifier.isStatic(c.getModifiers()), true);
             for (Method m : c.getDeclaredMethods()) {
+                Due.is(m + " bears no public one's name", c == RiceHall.class || !isFaceName(m.getName()), true);
                 Due.is(m + " takes few", m.getParameterCount() <= 7, true);
                 Due.is(m + " isn't made by the compiler", m.isSynthetic(), false);
             }
         }
+    }
+
+    private static boolean isFaceName(String name) {
+        for (String method : FACE) {
+            if (method.contains(" " + name + "(")) {
+                return true;
+            }
+        }
+        return false;
     }
 
     private static void source(String source) {

@@ -8,6 +8,7 @@ public final class FailTest {
         rounds();
         sameRound();
         circle();
+        asManyRoundsAsPersons();
         paperAndShare();
         coinsBelow();
         Due.end();
@@ -94,6 +95,17 @@ public final class FailTest {
         // 11 of 12: 91 hundredths; then 9 of 10; then what it's owed: 9 and 1 of 10
         fails(x, 0, 1, 2, 0);
         fails(x, 1, 91, 90, 100);
+    }
+
+    private static void asManyRoundsAsPersons() {
+        RiceHall x = hall(0, 0);
+        x.owe(0, 1, 150);
+        x.owe(1, 0, 100);
+        // 100 of 150: 66 hundredths; so 150 are 99, of 100
+        fails(x, 0, 1, 2);
+        fails(x, 1, 66, 99);
+        fails(x, 2, 2, 2);
+        fails(x, 3, 2, 2);
     }
 
     private static void paperAndShare() {

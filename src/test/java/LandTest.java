@@ -114,6 +114,10 @@ public final class LandTest {
         Due.is("fog of a minute", x.news(0, 1, 501), 502);
         x.fog(1, 700, 699);
         Due.is("fog without an end", x.news(0, 1, 699), 2699);
+        x.fog(1, 1440, 0);
+        Due.is("as it was", x.news(0, 1, 699), 2699);
+        x.fog(1, -1, 0);
+        Due.is("no fog any more", x.news(0, 1, 699), 700);
     }
 
     private static void newsByTheQuickestWay() {

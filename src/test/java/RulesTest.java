@@ -60,6 +60,8 @@ public final class RulesTest {
         for (int what = 0; what < wants.length; what++) {
             Due.is("told: rule(" + what + ")", x.rule(what), wants[what]);
         }
+        Due.rules(x, 0, "if day=0 spoil holder;halt");
+        Due.is("a text with a fault leaves all as it was", x.rule(11), 0);
         Due.rules(x, 0, "spoil holder;spoil store;floor 99999;");
         Due.is("spoil store", x.rule(9), 0);
         Due.is("floor 99999", x.rule(0), 99999);
@@ -96,6 +98,10 @@ public final class RulesTest {
         holds("wind=3 and wind=4", false);
         holds("wind=3 or wind=4", true);
         holds("wind=4 or wind=5", false);
+        holds("day<0", false);
+        holds("not day<0", true);
+        holds("wind=3 and day<0", false);
+        holds("out=0 and rice=0 and not out>0", true);
         holds("wind=3 or wind=4 and wind=5", true);
         holds("wind=4 and wind=5 or wind=3", true);
         holds("(wind=3 or wind=4) and wind=5", false);
@@ -160,6 +166,12 @@ public final class RulesTest {
         fault("halt;;", 5);
         fault("hal;", 0);
         fault("halts;", 0);
+        fault("haltz;", 0);
+        fault("zhalt;", 0);
+        fault("halt`;", 4);
+        fault("halt{", 4);
+        fault("floor 1:", 7);
+        fault("floor 1/", 7);
         fault("Halt;", 0);
         fault("halt;\thalt;", 5);
         fault("halt;\u00ff", 5);

@@ -193,6 +193,10 @@ public final class SessionTest {
         bargain(x, 0, 2, 0, 3, 1, 50);
         Due.is("prices that don't meet", x.cry(3, false, 1, 51), 4);
         Due.is("bargains", x.session(0, 4), 3);
+        x.cry(2, false, 1, 51);
+        x.cry(1, true, 2, 60);
+        bargain(x, 0, 3, 1, 3, 1, 51);
+        bargain(x, 0, 4, 1, 2, 1, 51);
     }
 
     private static void ownCriesDoNotMeet() {
@@ -217,6 +221,10 @@ public final class SessionTest {
         Due.is("refused for its price", x.cry(0, true, 1, 101), -3);
         Due.is("the last", x.cry(2, false, 50, 1), 59);
         Due.is("the 61st", x.cry(0, true, 1, 1), -1);
+        Due.is("the 61st goes ahead of its price", x.cry(0, true, 1, 101), -1);
+        Due.rules(x, 0, "halt;");
+        Due.is("the 61st goes ahead of halt", x.cry(0, true, 1, 1), -1);
+        Due.rules(x, 0, "ceiling 100;");
         Due.is("cries", x.session(0, 3), 60);
         Due.is("bargains", x.session(0, 4), 50);
         bargain(x, 0, 49, 0, 2, 1, 9);
