@@ -650,7 +650,7 @@ public final class RiceHall {
 
     /** Towns, their fogs, and the roads by which news goes. */
     private static final class Land {
-        private static final int NEVER = Integer.MAX_VALUE;
+        private static final int NEVER = 2147483647;
         private static final int FIRST_LIGHT = 360;
         private static final int LAST_LIGHT = 1079;
         private static final int FLAG_WAIT = 2880;

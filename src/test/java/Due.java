@@ -2,6 +2,8 @@
 final class Due {
     private static int wrong = 0;
     private static int asked = 0;
+    /** The document's sentence by which answers are due just now; empty if the test names none. */
+    static String sentence = "";
 
     private Due() {
     }
@@ -11,7 +13,8 @@ final class Due {
         if (got != want) {
             wrong++;
             if (wrong <= 50) {
-                System.out.println(call + " answered " + got + ", due is " + want);
+                String by = sentence.isEmpty() ? "" : " (\"" + sentence + "\")";
+                System.out.println(call + " answered " + got + ", due is " + want + by);
             }
         }
     }
