@@ -27,6 +27,7 @@ public final class EdgeClearingTest {
         onlyCoinsAbove();
         restToRemainders();
         restToTheLeast();
+        restOfSixteen();
         longProduct();
         settleEdge();
         settleOfEach();
@@ -348,6 +349,21 @@ public final class EdgeClearingTest {
 
     private static void onlyCoinsAbove() {
         Doc.says("all COINS above 0 bear it");
+        RiceHall x = twoOweMore();
+        Halls.close(x, 7, 8, 1, 480);
+        Halls.told(x, 5, 1, 0, 0, 0, 0);
+        Halls.coins(x, 0, -10, 24, -10, 6);
+        Due.is("the FUND", x.coins(-1), 0);
+        RiceHall y = twoOweMore();
+        y.draw(2, 35);
+        y.draw(4, 10);
+        Halls.close(y, 7, 8, 1, 480);
+        Halls.coins(y, 0, -10, 0, -10, 0);
+        Due.is("the FUND", y.coins(-1), -15);
+    }
+
+    /** Person 0 fails by 20 at the next close; 1 and 3 have less than nothing, but some grace is left to them. */
+    private static RiceHall twoOweMore() {
         RiceHall x = Halls.ruled("burn 600;margin 0;grace 2;settle 99;", 0, 10, 0, 0, 0, 0, 0, 0, 0);
         x.light();
         Halls.deal(x, 0, 2, 1, 500);
@@ -358,10 +374,7 @@ public final class EdgeClearingTest {
         Halls.close(x, 5, 6, 1, 480);
         Halls.coins(x, -20, -10, 40, -10, 10);
         Halls.told(x, 3, 2, 3, -1, 3, -1);
-        Halls.close(x, 7, 8, 1, 480);
-        Halls.told(x, 5, 1, 0, 0, 0, 0);
-        Halls.coins(x, 0, -10, 24, -10, 6);
-        Due.is("the FUND", x.coins(-1), 0);
+        return x;
     }
 
     private static void restToRemainders() {
@@ -388,6 +401,21 @@ public final class EdgeClearingTest {
         Halls.coins(failed(4, 3, 3, 3), 1, 2, 2);
         // 5 of 3, 3 and 3: 15 by 9 each, and two are left
         Halls.coins(failed(5, 3, 3, 3), 1, 1, 2);
+    }
+
+    private static void restOfSixteen() {
+        Doc.says("the rest 1 by 1 to the greatest remainders, of several the least PERSON).");
+        for (int lack = 1; lack <= 13; lack++) {
+            RiceHall x = Halls.ruled("burn 600;margin 0;grace 0;settle 99;", 0, 0, 0, 0, 1, 1, 1, 1, 1, 1, 1, 1, 1, 1, 1, 1);
+            Halls.close(x, 0, 1, 1, 500);
+            Halls.close(x, 2, 3, 1, 500 - lack);
+            x.draw(1, lack);
+            Halls.close(x, 2, 3, 1, 500 - lack);
+            for (int p = 4; p < 16; p++) {
+                Due.is("lack " + lack + ": coins(" + p + ")", x.coins(p), p - 4 < lack ? 0 : 1);
+            }
+            Due.is("the FUND", x.coins(-1), lack == 13 ? -1 : 0);
+        }
     }
 
     private static void longProduct() {
