@@ -1204,7 +1204,7 @@ public final class RiceHall {
         }
 
         private boolean take(int kind) {
-            if (isAtEnd() || kinds[next] != kind) {
+            if (next >= tokens || kinds[next] != kind) {
                 return false;
             }
             next++;
@@ -1213,7 +1213,7 @@ public final class RiceHall {
 
         /** Takes a token of one of several kinds that lie together; which of them: 0 on, NONE: none. */
         private int takeOf(int first, int last) {
-            if (isAtEnd() || kinds[next] < first || kinds[next] > last) {
+            if (next >= tokens || kinds[next] < first || kinds[next] > last) {
                 return NONE;
             }
             next++;
@@ -1221,7 +1221,7 @@ public final class RiceHall {
         }
 
         private int takeNumber(int least) {
-            if (isAtEnd() || kinds[next] != NUMBER || numbers[next] < least) {
+            if (next >= tokens || kinds[next] != NUMBER || numbers[next] < least) {
                 return NONE;
             }
             next++;
